@@ -29,7 +29,6 @@ public final class ForgeHeats {
     private static final int HOTTEST = 1250;
     private static final int DEGREES_A_WEAR = 100;
 
-    private static final int SETTINGS = 4;
     private static final int WARMING = 0;
     private static final int COOLING = 1;
     private static final int REHEATS = 2;
@@ -44,37 +43,12 @@ public final class ForgeHeats {
     private static final int FIRST_CODE = 33;
     private static final int LAST_CODE = 126;
 
-    // The columns of the tables bear the numbers that the document gives to the properties,
-    // so that a look reads its column; properties that are counted when asked for have none.
-    private static final int HEAT_STOCK = 0;
-    private static final int HEAT_LOW = 1;
-    private static final int HEAT_HIGH = 2;
-    private static final int HEAT_BILLETS = 3;
-    private static final int HEAT_MADE = 4;
-    private static final int HEAT_SCRAP = 5;
-    private static final int HEAT_LACK = 6;
-
-    private static final int DIE_BLOWS = 0;
-    private static final int DIE_LIMIT = 1;
-    private static final int DIE_WEAR = 2;
-    private static final int DIE_TO_GO = 3;
-    private static final int DIE_MADE = 4;
-    private static final int DIE_GROUND = 5;
-
-    private static final int JOB_NUMBER = 0;
-    private static final int JOB_DIE = 1;
-    private static final int JOB_HEAT = 2;
-    private static final int JOB_PIECES = 3;
-    private static final int JOB_MADE = 4;
-    private static final int JOB_DUE = 5;
-    private static final int JOB_RUSH = 6;
-    private static final int JOB_REASON = 7;
-
-    private static final int BILLET_JOB = 0;
-    private static final int BILLET_DEGREES = 1;
-    private static final int BILLET_REHEATS = 2;
-    private static final int BILLET_BLOWS = 3;
-
+    // How many properties the document numbers, from 0, for each kind of thing.
+    private static final int SETTINGS = 4;
+    private static final int OF_A_HEAT = 7;
+    private static final int OF_A_DIE = 6;
+    private static final int OF_A_JOB = 8;
+    private static final int OF_A_BILLET = 4;
     private static final int COUNTS = 12;
     private static final int FORESEEN = 5;
 
@@ -92,7 +66,6 @@ public final class ForgeHeats {
         for (int index = 0; index < past.length; index++) {
             past[index] = new Shop();
         }
-        pastStates = 0;
         text = new JobText();
     }
 
@@ -107,12 +80,13 @@ public final class ForgeHeats {
         if (!isWithin(billets, 1, MOST_ADDED)) {
             throw new IllegalArgumentException("billets out of range");
         }
-        if (shop.heats.get(heat, HEAT_STOCK) + billets > MOST_STOCK) {
+        Heat changed = shop.heatAt(heat);
+        if (changed.stock + billets > MOST_STOCK) {
             throw new IllegalStateException("too much stock");
         }
         remember();
-        shop.heats.add(heat, HEAT_STOCK, billets);
-        return shop.heats.get(heat, HEAT_STOCK);
+        changed.stock += billets;
+        return changed.stock;
     }
 
     /** Changes the temperatures of a heat; returns the previous ones. */
@@ -125,13 +99,14 @@ public final class ForgeHeats {
             throw new IllegalArgumentException("temperature out of range");
         }
         remember();
-        int previous = LOW_FACTOR * shop.heats.get(heat, HEAT_LOW) + shop.heats.get(heat, HEAT_HIGH);
-        shop.heats.put(heat, HEAT_LOW, low);
-        shop.heats.put(heat, HEAT_HIGH, high);
+        Heat changed = shop.heatAt(heat);
+        int previous = LOW_FACTOR * changed.low + changed.high;
+        changed.low = low;
+        changed.high = high;
         return previous;
     }
 
-    /** Changes a die, which is as new then; returns its previous wear. */
+    /** Changes a die, which is without wear then; returns its previous wear. */
     public int die(int die, int blows, int limit)
             throws IndexOutOfBoundsException, IllegalArgumentException, IllegalStateException {
         if (!isWithin(die, 0, DIES - 1)) {
@@ -140,15 +115,16 @@ public final class ForgeHeats {
         if (!isWithin(blows, 1, MOST_BLOWS) || !isWithin(limit, LEAST_LIMIT, MOST_LIMIT)) {
             throw new IllegalArgumentException("blows or limit out of range");
         }
-        if (shop.isBeingGround(die)) {
+        Die changed = shop.dieAt(die);
+        if (changed.isBeingGround()) {
             throw new IllegalStateException("the die is being ground");
         }
         remember();
-        int wear = shop.dies.get(die, DIE_WEAR);
-        shop.dies.put(die, DIE_BLOWS, blows);
-        shop.dies.put(die, DIE_LIMIT, limit);
-        shop.dies.put(die, DIE_WEAR, 0);
-        return wear;
+        int previous = changed.wear;
+        changed.blows = blows;
+        changed.limit = limit;
+        changed.wear = 0;
+        return previous;
     }
 
     /** Begins to grind a die; returns its wear. */
@@ -160,8 +136,9 @@ public final class ForgeHeats {
             throw new IllegalStateException("a die is being ground");
         }
         remember();
-        shop.beginGrinding(die);
-        return shop.dies.get(die, DIE_WEAR);
+        Die changed = shop.dieAt(die);
+        changed.toGo = shop.grinding;
+        return changed.wear;
     }
 
     // ---- jobs
@@ -212,7 +189,7 @@ public final class ForgeHeats {
         }
         remember();
         int previous = shop.valueOf(setting);
-        shop.settings.put(setting, 0, value);
+        shop.putValue(setting, value);
         return previous;
     }
 
@@ -225,9 +202,9 @@ public final class ForgeHeats {
             throw new IllegalStateException("too many minutes");
         }
         remember();
-        int before = shop.totalOf(HEAT_MADE);
+        int before = shop.countMade();
         shop.passMinutes(minutes);
-        return shop.totalOf(HEAT_MADE) - before;
+        return shop.countMade() - before;
     }
 
     // ---- texts
@@ -275,7 +252,7 @@ public final class ForgeHeats {
     /** Restores the latest saved state; returns how many are left. */
     public int undo() throws IllegalStateException {
         Shop latest = pastAt(pastStates - 1);
-        if (pastStates <= 0 || latest == null) {
+        if (latest == null) {
             throw new IllegalStateException("no saved state");
         }
         shop.copyFrom(latest);
@@ -290,7 +267,7 @@ public final class ForgeHeats {
         if (!isWithin(heat, 0, HEATS - 1)) {
             throw new IndexOutOfBoundsException("no such heat");
         }
-        if (!isWithin(what, 0, HEAT_LACK)) {
+        if (!isWithin(what, 0, OF_A_HEAT - 1)) {
             throw new IllegalArgumentException("no such property");
         }
         return shop.heatProperty(heat, what);
@@ -301,15 +278,15 @@ public final class ForgeHeats {
         if (!isWithin(die, 0, DIES - 1)) {
             throw new IndexOutOfBoundsException("no such die");
         }
-        if (!isWithin(what, 0, DIE_GROUND)) {
+        if (!isWithin(what, 0, OF_A_DIE - 1)) {
             throw new IllegalArgumentException("no such property");
         }
-        return shop.dies.get(die, what);
+        return shop.dieAt(die).property(what);
     }
 
     /** Returns a property of the job at a place in the order, NONE if there is none. */
     public int jobOf(int place, int what) throws IllegalArgumentException {
-        if (place < 0 || !isWithin(what, 0, JOB_REASON)) {
+        if (place < 0 || !isWithin(what, 0, OF_A_JOB - 1)) {
             throw new IllegalArgumentException("no such place or property");
         }
         return place < shop.jobCount ? shop.jobProperty(place, what) : NONE;
@@ -320,10 +297,10 @@ public final class ForgeHeats {
         if (!isWithin(place, 0, PRESS)) {
             throw new IndexOutOfBoundsException("no such place");
         }
-        if (!isWithin(what, 0, BILLET_BLOWS)) {
+        if (!isWithin(what, 0, OF_A_BILLET - 1)) {
             throw new IllegalArgumentException("no such property");
         }
-        return shop.billetProperty(place, what);
+        return shop.billetAt(place).property(what);
     }
 
     /** Returns a number of the whole shop. */
@@ -349,7 +326,8 @@ public final class ForgeHeats {
         if (!isWithin(minutes, 1, LONGEST_LOOK) || !isWithin(what, 0, FORESEEN - 1)) {
             throw new IllegalArgumentException("minutes or what out of range");
         }
-        return foresee(minutes, what);
+        foresee(minutes);
+        return foreseen(what);
     }
 
     /** Tells behind how many minutes a job would be gone. */
@@ -357,7 +335,7 @@ public final class ForgeHeats {
         if (shop.placeOf(number) == NONE) {
             throw new IndexOutOfBoundsException("no such job");
         }
-        return goneBehind(number, false);
+        return goneBehind(number);
     }
 
     /** Tells by how many minutes a job would be gone earlier as a rush job. */
@@ -365,7 +343,7 @@ public final class ForgeHeats {
         if (shop.placeOf(number) == NONE) {
             throw new IndexOutOfBoundsException("no such job");
         }
-        return gain(goneBehind(number, false), goneBehind(number, true));
+        return gainByHaste(number, goneBehind(number));
     }
 
     /** Finds the number of reheats with most pieces, then least scrap. */
@@ -389,8 +367,9 @@ public final class ForgeHeats {
         }
         hash = mixEquipment(hash);
         hash = mixJobs(hash);
+        foresee(30);
         for (int what = 0; what < FORESEEN; what++) {
-            hash = mix(hash, foresee(30, what));
+            hash = mix(hash, foreseen(what));
         }
         hash = mix(hash, bestNumberOfReheats(40));
         hash = mix(hash, bitsOf(shareMade()));
@@ -470,9 +449,9 @@ public final class ForgeHeats {
             case 3:
                 return shop.countInFurnace();
             case 4:
-                return shop.totalOf(HEAT_MADE);
+                return shop.countMade();
             case 5:
-                return shop.totalOf(HEAT_SCRAP);
+                return shop.countScrap();
             case 6:
                 return shop.blows;
             case 7:
@@ -488,14 +467,17 @@ public final class ForgeHeats {
         }
     }
 
-    private int foresee(int minutes, int what) {
+    private void foresee(int minutes) {
         trial.copyFrom(shop);
         trial.passMinutes(minutes);
+    }
+
+    private int foreseen(int what) {
         switch (what) {
             case 0:
-                return trial.totalOf(HEAT_MADE) - shop.totalOf(HEAT_MADE);
+                return trial.countMade() - shop.countMade();
             case 1:
-                return trial.totalOf(HEAT_SCRAP) - shop.totalOf(HEAT_SCRAP);
+                return trial.countScrap() - shop.countScrap();
             case 2:
                 return trial.jobCount;
             case 3:
@@ -505,25 +487,35 @@ public final class ForgeHeats {
         }
     }
 
-    private int goneBehind(int number, boolean asRush) {
+    private int goneBehind(int number) {
         trial.copyFrom(shop);
-        if (asRush) {
-            trial.hasten(trial.placeOf(number), true);
-        }
-        return trial.passUntilGone(number);
+        return passUntilGone(number);
     }
 
-    private static int gain(int asItIs, int asRush) {
-        if (asItIs == NONE && asRush == NONE) {
+    /** How much earlier a rush job would be gone, if as it is it would be gone behind so many minutes. */
+    private int gainByHaste(int number, int asItIs) {
+        trial.copyFrom(shop);
+        int place = trial.placeOf(number);
+        if (trial.hasten(place, true) == place) {
+            // Minutes look at haste through the order alone: in the same order, the same happens.
             return 0;
         }
+        int asRush = passUntilGone(number);
         if (asItIs == NONE) {
-            return ONLY_AS_RUSH;
+            return asRush == NONE ? 0 : ONLY_AS_RUSH;
         }
-        if (asRush == NONE) {
-            return -ONLY_AS_RUSH;
+        return asRush == NONE ? -ONLY_AS_RUSH : asItIs - asRush;
+    }
+
+    /** Lets the trial pass until a job is gone; returns how many minutes, NONE if it stays too long. */
+    private int passUntilGone(int number) {
+        for (int passed = 1; passed <= LONGEST_LOOK; passed++) {
+            trial.passMinute();
+            if (trial.placeOf(number) == NONE) {
+                return passed;
+            }
         }
-        return asItIs - asRush;
+        return NONE;
     }
 
     private int bestNumberOfReheats(int minutes) {
@@ -532,10 +524,10 @@ public final class ForgeHeats {
         int leastScrap = 0;
         for (int reheats = 0; reheats <= MOST_REHEATS; reheats++) {
             trial.copyFrom(shop);
-            trial.settings.put(REHEATS, 0, reheats);
+            trial.reheats = reheats;
             trial.passMinutes(minutes);
-            int made = trial.totalOf(HEAT_MADE);
-            int scrap = trial.totalOf(HEAT_SCRAP);
+            int made = trial.countMade();
+            int scrap = trial.countScrap();
             if (made > mostMade || (made == mostMade && scrap < leastScrap)) {
                 best = reheats;
                 mostMade = made;
@@ -546,8 +538,8 @@ public final class ForgeHeats {
     }
 
     private double shareMade() {
-        int made = shop.totalOf(HEAT_MADE);
-        int all = made + shop.totalOf(HEAT_SCRAP);
+        int made = shop.countMade();
+        int all = made + shop.countScrap();
         return all == 0 ? 1.0 : (double) made / (double) all;
     }
 
@@ -576,18 +568,18 @@ public final class ForgeHeats {
             hash = mix(hash, shop.valueOf(setting));
         }
         for (int heat = 0; heat < HEATS; heat++) {
-            for (int what = 0; what <= HEAT_LACK; what++) {
+            for (int what = 0; what < OF_A_HEAT; what++) {
                 hash = mix(hash, shop.heatProperty(heat, what));
             }
         }
         for (int die = 0; die < DIES; die++) {
-            for (int what = 0; what <= DIE_GROUND; what++) {
-                hash = mix(hash, shop.dies.get(die, what));
+            for (int what = 0; what < OF_A_DIE; what++) {
+                hash = mix(hash, shop.dieAt(die).property(what));
             }
         }
         for (int place = 0; place <= PRESS; place++) {
-            for (int what = 0; what <= BILLET_BLOWS; what++) {
-                hash = mix(hash, shop.billetProperty(place, what));
+            for (int what = 0; what < OF_A_BILLET; what++) {
+                hash = mix(hash, shop.billetAt(place).property(what));
             }
         }
         return hash;
@@ -596,114 +588,227 @@ public final class ForgeHeats {
     private long mixJobs(long begun) {
         long hash = begun;
         for (int place = 0; place < shop.jobCount; place++) {
-            for (int what = 0; what <= JOB_REASON; what++) {
+            for (int what = 0; what < OF_A_JOB; what++) {
                 hash = mix(hash, shop.jobProperty(place, what));
             }
-            int number = shop.jobs.get(place, JOB_NUMBER);
-            int asItIs = goneBehind(number, false);
+            int number = shop.jobAt(place).number;
+            int asItIs = goneBehind(number);
             hash = mix(hash, asItIs);
-            hash = mix(hash, gain(asItIs, goneBehind(number, true)));
+            hash = mix(hash, gainByHaste(number, asItIs));
         }
         return hash;
     }
 
-    /** Rows of numbers; a cell that there is not reads as 0 and takes nothing. */
-    private static final class Table {
-        private final int columns;
-        private final int[] cells;
+    /** Billets of one kind, and what was made of them. */
+    private static final class Heat {
+        int stock;
+        int low = 900;
+        int high = 1100;
+        int made;
+        int scrap;
 
-        Table(int rows, int columns) {
-            this.columns = columns;
-            this.cells = new int[Math.max(0, rows * columns)];
+        void copyFrom(Heat other) {
+            stock = other.stock;
+            low = other.low;
+            high = other.high;
+            made = other.made;
+            scrap = other.scrap;
+        }
+    }
+
+    /** A die of the press; toGo is the minutes for which it is still ground. */
+    private static final class Die {
+        int blows = 3;
+        int limit = 60;
+        int wear;
+        int toGo;
+        int made;
+        int timesGround;
+
+        void copyFrom(Die other) {
+            blows = other.blows;
+            limit = other.limit;
+            wear = other.wear;
+            toGo = other.toGo;
+            made = other.made;
+            timesGround = other.timesGround;
         }
 
-        int get(int row, int column) {
-            int index = row * columns + column;
-            return index >= 0 && index < cells.length ? cells[index] : 0;
+        boolean isBeingGround() {
+            return toGo > 0;
         }
 
-        void put(int row, int column, int value) {
-            int index = row * columns + column;
-            if (index >= 0 && index < cells.length) {
-                cells[index] = value;
+        boolean isWornOut() {
+            return wear >= limit;
+        }
+
+        boolean canForge() {
+            return toGo <= 0 && wear < limit;
+        }
+
+        void grindMinute() {
+            toGo--;
+            if (toGo <= 0) {
+                wear = 0;
+                limit = Math.max(LEAST_LIMIT, limit - LIMIT_LOSS);
+                timesGround++;
             }
         }
 
-        void add(int row, int column, int more) {
-            int index = row * columns + column;
-            if (index >= 0 && index < cells.length) {
-                cells[index] += more;
+        int property(int what) {
+            switch (what) {
+                case 0:
+                    return blows;
+                case 1:
+                    return limit;
+                case 2:
+                    return wear;
+                case 3:
+                    return toGo;
+                case 4:
+                    return made;
+                default:
+                    return timesGround;
             }
         }
+    }
 
-        void swapRows(int one, int other) {
-            for (int column = 0; column < columns; column++) {
-                int kept = get(one, column);
-                put(one, column, get(other, column));
-                put(other, column, kept);
-            }
+    /** A job; billets counts those of it in the furnace and on the press. */
+    private static final class Job {
+        int number;
+        int die;
+        int heat;
+        int pieces;
+        int made;
+        int due;
+        boolean isRush;
+        int billets;
+
+        void copyFrom(Job other) {
+            number = other.number;
+            die = other.die;
+            heat = other.heat;
+            pieces = other.pieces;
+            made = other.made;
+            due = other.due;
+            isRush = other.isRush;
+            billets = other.billets;
         }
 
-        void removeRow(int row) {
-            for (int index = Math.max(0, row * columns); index < cells.length - columns; index++) {
-                int behind = index + columns;
-                if (behind >= 0 && behind < cells.length) {
-                    cells[index] = cells[behind];
-                }
+        boolean comesBefore(Job other) {
+            if (isRush != other.isRush) {
+                return isRush;
             }
+            return due != other.due ? due < other.due : number < other.number;
         }
 
-        void copyFrom(Table other) {
-            System.arraycopy(other.cells, 0, cells, 0, Math.min(cells.length, other.cells.length));
+        int lack() {
+            return pieces - made - billets;
+        }
+    }
+
+    /** What lies at a place of the furnace or on the press: nothing if its job is NONE. */
+    private static final class Billet {
+        int job = NONE;
+        int degrees;
+        int reheats;
+        int blows;
+
+        void copyFrom(Billet other) {
+            job = other.job;
+            degrees = other.degrees;
+            reheats = other.reheats;
+            blows = other.blows;
+        }
+
+        int property(int what) {
+            if (job == NONE) {
+                return NONE;
+            }
+            switch (what) {
+                case 0:
+                    return job;
+                case 1:
+                    return degrees;
+                case 2:
+                    return reheats;
+                default:
+                    return blows;
+            }
         }
     }
 
     /** All that undo restores, and the minutes that change it. */
     private static final class Shop {
-        final Table heats;
-        final Table dies;
-        final Table jobs;
-        final Table billets;
-        final Table settings;
+        private final Heat[] heats;
+        private final Die[] dies;
+        // In their order, behind them the room for those that may come.
+        private final Job[] jobs;
+        private final Billet[] furnace;
+        private final Billet press;
         int jobCount;
-        int nextNumber;
+        private int nextNumber;
+        private int warming = 150;
+        private int cooling = 40;
+        int reheats = 1;
+        int grinding = 5;
         int minutes;
         int blows;
         int goneJobs;
         int lateJobs;
         int lateMinutes;
 
+        // What is found at an index that is not there, so that no look answers null.
+        private final Heat noHeat;
+        private final Die noDie;
+        private final Job noJob;
+
         Shop() {
-            heats = new Table(HEATS, HEAT_SCRAP + 1);
-            for (int heat = 0; heat < HEATS; heat++) {
-                heats.put(heat, HEAT_LOW, 900);
-                heats.put(heat, HEAT_HIGH, 1100);
+            heats = new Heat[HEATS];
+            for (int heat = 0; heat < heats.length; heat++) {
+                heats[heat] = new Heat();
             }
-            dies = new Table(DIES, DIE_GROUND + 1);
-            for (int die = 0; die < DIES; die++) {
-                dies.put(die, DIE_BLOWS, 3);
-                dies.put(die, DIE_LIMIT, 60);
+            dies = new Die[DIES];
+            for (int die = 0; die < dies.length; die++) {
+                dies[die] = new Die();
             }
-            jobs = new Table(MOST_JOBS, JOB_RUSH + 1);
-            billets = new Table(PRESS + 1, BILLET_BLOWS + 1);
-            for (int place = 0; place <= PRESS; place++) {
-                billets.put(place, BILLET_JOB, NONE);
+            jobs = new Job[MOST_JOBS];
+            for (int place = 0; place < jobs.length; place++) {
+                jobs[place] = new Job();
             }
-            settings = new Table(SETTINGS, 1);
-            settings.put(WARMING, 0, 150);
-            settings.put(COOLING, 0, 40);
-            settings.put(REHEATS, 0, 1);
-            settings.put(GRINDING, 0, 5);
+            furnace = new Billet[FURNACE_PLACES];
+            for (int place = 0; place < furnace.length; place++) {
+                furnace[place] = new Billet();
+            }
+            press = new Billet();
+            noHeat = new Heat();
+            noDie = new Die();
+            noJob = new Job();
         }
 
         void copyFrom(Shop other) {
-            heats.copyFrom(other.heats);
-            dies.copyFrom(other.dies);
-            jobs.copyFrom(other.jobs);
-            billets.copyFrom(other.billets);
-            settings.copyFrom(other.settings);
+            for (int heat = 0; heat < HEATS; heat++) {
+                heatAt(heat).copyFrom(other.heatAt(heat));
+            }
+            for (int die = 0; die < DIES; die++) {
+                dieAt(die).copyFrom(other.dieAt(die));
+            }
+            for (int place = 0; place < other.jobCount; place++) {
+                jobAt(place).copyFrom(other.jobAt(place));
+            }
+            for (int place = 0; place <= PRESS; place++) {
+                billetAt(place).copyFrom(other.billetAt(place));
+            }
+            copyNumbersFrom(other);
+        }
+
+        private void copyNumbersFrom(Shop other) {
             jobCount = other.jobCount;
             nextNumber = other.nextNumber;
+            warming = other.warming;
+            cooling = other.cooling;
+            reheats = other.reheats;
+            grinding = other.grinding;
             minutes = other.minutes;
             blows = other.blows;
             goneJobs = other.goneJobs;
@@ -711,56 +816,75 @@ public final class ForgeHeats {
             lateMinutes = other.lateMinutes;
         }
 
-        // -- the order of the jobs: row 0 of the table is the first job
+        Heat heatAt(int heat) {
+            Heat found = heat >= 0 && heat < heats.length ? heats[heat] : null;
+            return found != null ? found : noHeat;
+        }
+
+        Die dieAt(int die) {
+            Die found = die >= 0 && die < dies.length ? dies[die] : null;
+            return found != null ? found : noDie;
+        }
+
+        Job jobAt(int place) {
+            Job found = place >= 0 && place < jobs.length ? jobs[place] : null;
+            return found != null ? found : noJob;
+        }
+
+        /** What lies at a place of the furnace, at every other place what lies on the press. */
+        Billet billetAt(int place) {
+            Billet found = place >= 0 && place < furnace.length ? furnace[place] : null;
+            return found != null ? found : press;
+        }
+
+        // -- the order of the jobs
 
         int addJob(int die, int heat, int pieces, int due, boolean isRush) {
-            int place = jobCount;
-            int number = nextNumber;
-            jobs.put(place, JOB_NUMBER, number);
-            jobs.put(place, JOB_DIE, die);
-            jobs.put(place, JOB_HEAT, heat);
-            jobs.put(place, JOB_PIECES, pieces);
-            jobs.put(place, JOB_MADE, 0);
-            jobs.put(place, JOB_DUE, due);
-            jobs.put(place, JOB_RUSH, isRush ? 1 : 0);
-            jobCount++;
+            Job added = jobAt(jobCount);
+            added.number = nextNumber;
+            added.die = die;
+            added.heat = heat;
+            added.pieces = pieces;
+            added.made = 0;
+            added.due = due;
+            added.isRush = isRush;
+            added.billets = 0;
             nextNumber++;
-            settle(place);
-            return number;
+            jobCount++;
+            settle(jobCount - 1);
+            return added.number;
         }
 
         /** Makes the job at a place a rush job or none, and returns its new place. */
         int hasten(int place, boolean isRush) {
-            jobs.put(place, JOB_RUSH, isRush ? 1 : 0);
+            jobAt(place).isRush = isRush;
             return settle(place);
         }
 
         private int settle(int from) {
             int place = from;
-            for (; place > 0 && comesBefore(place, place - 1); place--) {
-                jobs.swapRows(place, place - 1);
+            while (place > 0 && jobAt(place).comesBefore(jobAt(place - 1))) {
+                swapJobs(place, place - 1);
+                place--;
             }
-            for (; place < jobCount - 1 && comesBefore(place + 1, place); place++) {
-                jobs.swapRows(place, place + 1);
+            while (place < jobCount - 1 && jobAt(place + 1).comesBefore(jobAt(place))) {
+                swapJobs(place, place + 1);
+                place++;
             }
             return place;
         }
 
-        private boolean comesBefore(int one, int other) {
-            int haste = jobs.get(one, JOB_RUSH) - jobs.get(other, JOB_RUSH);
-            if (haste != 0) {
-                return haste > 0;
+        private void swapJobs(int one, int other) {
+            if (one >= 0 && one < jobs.length && other >= 0 && other < jobs.length) {
+                Job kept = jobs[one];
+                jobs[one] = jobs[other];
+                jobs[other] = kept;
             }
-            int delay = jobs.get(one, JOB_DUE) - jobs.get(other, JOB_DUE);
-            if (delay != 0) {
-                return delay < 0;
-            }
-            return jobs.get(one, JOB_NUMBER) < jobs.get(other, JOB_NUMBER);
         }
 
         int placeOf(int number) {
             for (int place = 0; place < jobCount; place++) {
-                if (jobs.get(place, JOB_NUMBER) == number) {
+                if (jobAt(place).number == number) {
                     return place;
                 }
             }
@@ -768,178 +892,210 @@ public final class ForgeHeats {
         }
 
         private void removeJob(int place) {
-            jobs.removeRow(place);
             jobCount--;
+            for (int at = place; at < jobCount; at++) {
+                swapJobs(at, at + 1);
+            }
         }
 
         /** Takes the job at a place away, and returns how many billets become scrap. */
         int dropJob(int place) {
-            int number = jobs.get(place, JOB_NUMBER);
-            int scrap = 0;
+            Job dropped = jobAt(place);
             for (int spot = 0; spot <= PRESS; spot++) {
-                if (billets.get(spot, BILLET_JOB) == number) {
-                    billets.put(spot, BILLET_JOB, NONE);
-                    scrap++;
+                Billet billet = billetAt(spot);
+                if (billet.job == dropped.number) {
+                    billet.job = NONE;
                 }
             }
-            heats.add(jobs.get(place, JOB_HEAT), HEAT_SCRAP, scrap);
+            heatAt(dropped.heat).scrap += dropped.billets;
             removeJob(place);
-            return scrap;
+            return dropped.billets;
         }
 
         // -- what can be told of the shop
 
         int valueOf(int setting) {
-            return settings.get(setting, 0);
+            switch (setting) {
+                case WARMING:
+                    return warming;
+                case COOLING:
+                    return cooling;
+                case REHEATS:
+                    return reheats;
+                default:
+                    return grinding;
+            }
         }
 
-        int totalOf(int heatColumn) {
-            int total = 0;
-            for (int heat = 0; heat < HEATS; heat++) {
-                total += heats.get(heat, heatColumn);
+        void putValue(int setting, int value) {
+            switch (setting) {
+                case WARMING:
+                    warming = value;
+                    break;
+                case COOLING:
+                    cooling = value;
+                    break;
+                case REHEATS:
+                    reheats = value;
+                    break;
+                default:
+                    grinding = value;
+                    break;
             }
-            return total;
+        }
+
+        int countMade() {
+            int made = 0;
+            for (int heat = 0; heat < HEATS; heat++) {
+                made += heatAt(heat).made;
+            }
+            return made;
+        }
+
+        int countScrap() {
+            int scrap = 0;
+            for (int heat = 0; heat < HEATS; heat++) {
+                scrap += heatAt(heat).scrap;
+            }
+            return scrap;
         }
 
         int countRushJobs() {
             int rushJobs = 0;
             for (int place = 0; place < jobCount; place++) {
-                rushJobs += jobs.get(place, JOB_RUSH);
+                if (jobAt(place).isRush) {
+                    rushJobs++;
+                }
             }
             return rushJobs;
         }
 
         int countInFurnace() {
             int count = 0;
-            for (int spot = 0; spot < FURNACE_PLACES; spot++) {
-                if (billets.get(spot, BILLET_JOB) != NONE) {
+            for (Billet billet : furnace) {
+                if (billet != null && billet.job != NONE) {
                     count++;
                 }
             }
             return count;
         }
 
-        int heatProperty(int heat, int what) {
-            if (what == HEAT_BILLETS) {
-                return countBilletsOf(heat);
+        int heatProperty(int number, int what) {
+            Heat heat = heatAt(number);
+            switch (what) {
+                case 0:
+                    return heat.stock;
+                case 1:
+                    return heat.low;
+                case 2:
+                    return heat.high;
+                case 3:
+                    return countBilletsOf(number);
+                case 4:
+                    return heat.made;
+                case 5:
+                    return heat.scrap;
+                default:
+                    return countLackOf(number);
             }
-            if (what == HEAT_LACK) {
-                return lackOfHeat(heat);
-            }
-            return heats.get(heat, what);
         }
 
         private int countBilletsOf(int heat) {
             int count = 0;
             for (int place = 0; place < jobCount; place++) {
-                if (jobs.get(place, JOB_HEAT) == heat) {
-                    count += countBilletsOfJob(place, PRESS);
+                Job job = jobAt(place);
+                if (job.heat == heat) {
+                    count += job.billets;
                 }
             }
             return count;
         }
 
-        private int lackOfHeat(int heat) {
+        private int countLackOf(int heat) {
             int lack = 0;
             for (int place = 0; place < jobCount; place++) {
-                if (jobs.get(place, JOB_HEAT) == heat) {
-                    lack += lackOf(place);
+                Job job = jobAt(place);
+                if (job.heat == heat) {
+                    lack += job.lack();
                 }
             }
             return lack;
         }
 
         int jobProperty(int place, int what) {
-            return what == JOB_REASON ? reasonToWait(place) : jobs.get(place, what);
+            Job job = jobAt(place);
+            switch (what) {
+                case 0:
+                    return job.number;
+                case 1:
+                    return job.die;
+                case 2:
+                    return job.heat;
+                case 3:
+                    return job.pieces;
+                case 4:
+                    return job.made;
+                case 5:
+                    return job.due;
+                case 6:
+                    return job.isRush ? 1 : 0;
+                default:
+                    return reasonToWait(job);
+            }
         }
 
-        private int reasonToWait(int place) {
-            int number = jobs.get(place, JOB_NUMBER);
-            int die = jobs.get(place, JOB_DIE);
-            int onPress = billets.get(PRESS, BILLET_JOB);
-            if (onPress == number) {
+        private int reasonToWait(Job job) {
+            Die die = dieAt(job.die);
+            if (press.job == job.number) {
                 return 0;
             }
-            if (isBeingGround(die)) {
+            if (die.isBeingGround()) {
                 return 1;
             }
-            if (isWornOut(die)) {
+            if (die.isWornOut()) {
                 return 2;
             }
-            boolean hasNoStock = heats.get(jobs.get(place, JOB_HEAT), HEAT_STOCK) <= 0;
-            if (hasNoStock && countBilletsOfJob(place, FURNACE_PLACES - 1) == 0) {
+            // None of its billets is on the press here, so all that it has are in the furnace.
+            if (job.billets == 0 && heatAt(job.heat).stock == 0) {
                 return 3;
             }
-            if (hottestReady(place) == NONE) {
+            if (hottestReady(job) == null) {
                 return 4;
             }
-            return onPress != NONE ? 5 : 6;
-        }
-
-        int billetProperty(int spot, int what) {
-            return billets.get(spot, BILLET_JOB) == NONE ? NONE : billets.get(spot, what);
+            return press.job != NONE ? 5 : 6;
         }
 
         int dieBeingGround() {
             for (int die = 0; die < DIES; die++) {
-                if (dies.get(die, DIE_TO_GO) > 0) {
+                if (dieAt(die).isBeingGround()) {
                     return die;
                 }
             }
             return NONE;
         }
 
-        boolean isBeingGround(int die) {
-            return dies.get(die, DIE_TO_GO) > 0;
-        }
-
-        private boolean isWornOut(int die) {
-            return dies.get(die, DIE_WEAR) >= dies.get(die, DIE_LIMIT);
-        }
-
-        private boolean canForge(int die) {
-            return dies.get(die, DIE_TO_GO) <= 0 && dies.get(die, DIE_WEAR) < dies.get(die, DIE_LIMIT);
-        }
-
-        private int countBilletsOfJob(int place, int lastSpot) {
-            int number = jobs.get(place, JOB_NUMBER);
-            int count = 0;
-            for (int spot = 0; spot <= lastSpot; spot++) {
-                if (billets.get(spot, BILLET_JOB) == number) {
-                    count++;
+        /** The lowest place of the furnace without a billet, null if there is none. */
+        private Billet freePlace() {
+            for (Billet billet : furnace) {
+                if (billet != null && billet.job == NONE) {
+                    return billet;
                 }
             }
-            return count;
+            return null;
         }
 
-        private int lackOf(int place) {
-            int open = jobs.get(place, JOB_PIECES) - jobs.get(place, JOB_MADE);
-            return open - countBilletsOfJob(place, PRESS);
-        }
-
-        private int freeSpot() {
-            for (int spot = 0; spot < FURNACE_PLACES; spot++) {
-                if (billets.get(spot, BILLET_JOB) == NONE) {
-                    return spot;
-                }
-            }
-            return NONE;
-        }
-
-        /** The spot of the hottest billet of a job that is hot enough for the press, or NONE. */
-        private int hottestReady(int place) {
-            int number = jobs.get(place, JOB_NUMBER);
-            int least = heats.get(jobs.get(place, JOB_HEAT), HEAT_HIGH);
-            int found = NONE;
-            for (int spot = 0; spot < FURNACE_PLACES; spot++) {
-                int degrees = billets.get(spot, BILLET_DEGREES);
-                if (billets.get(spot, BILLET_JOB) == number && degrees >= least) {
-                    found = spot;
+        /** The hottest billet of a job that is hot enough for the press, null if there is none. */
+        private Billet hottestReady(Job job) {
+            int least = heatAt(job.heat).high;
+            Billet hottest = null;
+            for (Billet billet : furnace) {
+                if (billet != null && billet.job == job.number && billet.degrees >= least) {
+                    hottest = billet;
                     // From here on only a hotter one is better, so the lowest of equals stays.
-                    least = degrees + 1;
+                    least = billet.degrees + 1;
                 }
             }
-            return found;
+            return hottest;
         }
 
         // -- a minute
@@ -950,53 +1106,41 @@ public final class ForgeHeats {
             }
         }
 
-        /** Lets minutes pass until a job is gone; returns how many, NONE if it stays too long. */
-        int passUntilGone(int number) {
-            for (int passed = 1; passed <= LONGEST_LOOK; passed++) {
-                passMinute();
-                if (placeOf(number) == NONE) {
-                    return passed;
-                }
-            }
-            return NONE;
-        }
-
-        private void passMinute() {
+        void passMinute() {
             minutes++;
             warmFurnace();
             chargeFurnace();
-            int onPress = billets.get(PRESS, BILLET_JOB);
-            if (onPress == NONE) {
+            if (press.job == NONE) {
                 loadPress();
             } else {
-                workPress(placeOf(onPress));
+                workPress(placeOf(press.job));
             }
             tendDies();
         }
 
         private void warmFurnace() {
-            int warming = settings.get(WARMING, 0);
-            for (int spot = 0; spot < FURNACE_PLACES; spot++) {
-                if (billets.get(spot, BILLET_JOB) != NONE) {
-                    int degrees = billets.get(spot, BILLET_DEGREES) + warming;
-                    billets.put(spot, BILLET_DEGREES, Math.min(HOTTEST, degrees));
+            for (Billet billet : furnace) {
+                if (billet != null && billet.job != NONE) {
+                    billet.degrees = Math.min(HOTTEST, billet.degrees + warming);
                 }
             }
         }
 
         private void chargeFurnace() {
-            int spot = freeSpot();
-            if (spot == NONE) {
+            Billet free = freePlace();
+            if (free == null) {
                 return;
             }
             for (int place = 0; place < jobCount; place++) {
-                int heat = jobs.get(place, JOB_HEAT);
-                if (heats.get(heat, HEAT_STOCK) > 0 && lackOf(place) > 0) {
-                    heats.add(heat, HEAT_STOCK, -1);
-                    billets.put(spot, BILLET_JOB, jobs.get(place, JOB_NUMBER));
-                    billets.put(spot, BILLET_DEGREES, COLDEST);
-                    billets.put(spot, BILLET_REHEATS, 0);
-                    billets.put(spot, BILLET_BLOWS, dies.get(jobs.get(place, JOB_DIE), DIE_BLOWS));
+                Job job = jobAt(place);
+                Heat heat = heatAt(job.heat);
+                if (heat.stock > 0 && job.lack() > 0) {
+                    heat.stock--;
+                    job.billets++;
+                    free.job = job.number;
+                    free.degrees = COLDEST;
+                    free.reheats = 0;
+                    free.blows = dieAt(job.die).blows;
                     return;
                 }
             }
@@ -1004,10 +1148,12 @@ public final class ForgeHeats {
 
         private void loadPress() {
             for (int place = 0; place < jobCount; place++) {
-                if (canForge(jobs.get(place, JOB_DIE))) {
-                    int spot = hottestReady(place);
-                    if (spot != NONE) {
-                        billets.swapRows(spot, PRESS);
+                Job job = jobAt(place);
+                if (job.billets > 0 && dieAt(job.die).canForge()) {
+                    Billet hottest = hottestReady(job);
+                    if (hottest != null) {
+                        press.copyFrom(hottest);
+                        hottest.job = NONE;
                         return;
                     }
                 }
@@ -1015,72 +1161,65 @@ public final class ForgeHeats {
         }
 
         private void workPress(int place) {
-            int die = jobs.get(place, JOB_DIE);
-            int heat = jobs.get(place, JOB_HEAT);
-            int degrees = billets.get(PRESS, BILLET_DEGREES);
-            if (!canForge(die) || degrees < heats.get(heat, HEAT_LOW)) {
-                sendBack(heat);
+            Job job = jobAt(place);
+            Heat heat = heatAt(job.heat);
+            Die die = dieAt(job.die);
+            if (!die.canForge() || press.degrees < heat.low) {
+                sendBack(job, heat);
                 return;
             }
-            int missing = Math.max(0, heats.get(heat, HEAT_HIGH) - degrees);
-            dies.add(die, DIE_WEAR, 1 + missing / DEGREES_A_WEAR);
-            billets.put(PRESS, BILLET_DEGREES, Math.max(COLDEST, degrees - settings.get(COOLING, 0)));
-            billets.add(PRESS, BILLET_BLOWS, -1);
+            die.wear += 1 + Math.max(0, heat.high - press.degrees) / DEGREES_A_WEAR;
+            press.degrees = Math.max(COLDEST, press.degrees - cooling);
+            press.blows--;
             blows++;
-            if (billets.get(PRESS, BILLET_BLOWS) <= 0) {
-                finishPiece(place);
+            if (press.blows > 0) {
+                return;
+            }
+            press.job = NONE;
+            job.billets--;
+            job.made++;
+            heat.made++;
+            die.made++;
+            if (job.made >= job.pieces) {
+                countGone(job);
+                removeJob(place);
             }
         }
 
-        private void sendBack(int heat) {
-            billets.add(PRESS, BILLET_REHEATS, 1);
-            int spot = freeSpot();
-            if (spot == NONE || billets.get(PRESS, BILLET_REHEATS) > settings.get(REHEATS, 0)) {
-                billets.put(PRESS, BILLET_JOB, NONE);
-                heats.add(heat, HEAT_SCRAP, 1);
+        private void sendBack(Job job, Heat heat) {
+            press.reheats++;
+            Billet free = freePlace();
+            if (free == null || press.reheats > reheats) {
+                job.billets--;
+                heat.scrap++;
             } else {
-                billets.swapRows(PRESS, spot);
+                free.copyFrom(press);
             }
+            press.job = NONE;
         }
 
-        private void finishPiece(int place) {
-            billets.put(PRESS, BILLET_JOB, NONE);
-            jobs.add(place, JOB_MADE, 1);
-            heats.add(jobs.get(place, JOB_HEAT), HEAT_MADE, 1);
-            dies.add(jobs.get(place, JOB_DIE), DIE_MADE, 1);
-            if (jobs.get(place, JOB_MADE) >= jobs.get(place, JOB_PIECES)) {
-                finishJob(place);
-            }
-        }
-
-        private void finishJob(int place) {
-            int lateBy = minutes - jobs.get(place, JOB_DUE);
+        private void countGone(Job job) {
+            goneJobs++;
+            int lateBy = minutes - job.due;
             if (lateBy > 0) {
                 lateJobs++;
                 lateMinutes += lateBy;
             }
-            goneJobs++;
-            removeJob(place);
-        }
-
-        void beginGrinding(int die) {
-            dies.put(die, DIE_TO_GO, settings.get(GRINDING, 0));
         }
 
         private void tendDies() {
             int ground = dieBeingGround();
             if (ground != NONE) {
-                dies.add(ground, DIE_TO_GO, -1);
-                if (isBeingGround(ground)) {
+                Die die = dieAt(ground);
+                die.grindMinute();
+                if (die.isBeingGround()) {
                     return;
                 }
-                dies.put(ground, DIE_WEAR, 0);
-                dies.put(ground, DIE_LIMIT, Math.max(LEAST_LIMIT, dies.get(ground, DIE_LIMIT) - LIMIT_LOSS));
-                dies.add(ground, DIE_GROUND, 1);
             }
-            for (int die = 0; die < DIES; die++) {
-                if (isWornOut(die)) {
-                    beginGrinding(die);
+            for (int number = 0; number < DIES; number++) {
+                Die die = dieAt(number);
+                if (die.isWornOut()) {
+                    die.toGo = grinding;
                     return;
                 }
             }
