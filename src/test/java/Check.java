@@ -44,6 +44,25 @@ final class Check {
         }
     }
 
+    /** The call must save one state, and undo must bring back all that was before it. */
+    void undoable(String what, ForgeHeats shop, Call call) {
+        checks++;
+        long before = shop.digest();
+        int saved = shop.count(11);
+        call.run();
+        if (shop.count(11) != Math.min(6, saved + 1)) {
+            tell(what + " did not save one state");
+        }
+        int left = shop.undo();
+        if (left != Math.min(5, saved)) {
+            tell(what + " left " + left + " saved states behind its undo");
+        }
+        if (saved < 6 && shop.digest() != before) {
+            tell(what + " was not undone whole");
+        }
+        call.run();
+    }
+
     void tell(String message) {
         wrong++;
         if (wrong <= 40) {
