@@ -47,17 +47,20 @@ final class Check {
     /** The call must save one state, and undo must bring back all that was before it. */
     void undoable(String what, ForgeHeats shop, Call call) {
         checks++;
+        // With six saved states the oldest would be dropped, so room for one is made first.
+        shop.set(0, shop.setting(0));
+        shop.undo();
         long before = shop.digest();
         int saved = shop.count(11);
         call.run();
-        if (shop.count(11) != Math.min(6, saved + 1)) {
+        if (shop.count(11) != saved + 1) {
             tell(what + " did not save one state");
         }
         int left = shop.undo();
-        if (left != Math.min(5, saved)) {
+        if (left != saved) {
             tell(what + " left " + left + " saved states behind its undo");
         }
-        if (saved < 6 && shop.digest() != before) {
+        if (shop.digest() != before) {
             tell(what + " was not undone whole");
         }
         call.run();

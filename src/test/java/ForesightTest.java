@@ -269,26 +269,33 @@ public final class ForesightTest {
         CHECK.same("and back", shop.digest(), digestOf(shop, ""));
     }
 
-    /** Every share that some pieces and scrap can have enters the hash with its own bits. */
+    /** Shares of many kinds enter the hash with their bits. */
     private static void bitsOfShares() {
         for (int pieces = 0; pieces <= 12; pieces++) {
-            ForgeHeats shop = new ForgeHeats();
-            shop.stock(0, 99);
-            shop.set(0, 300);
-            shop.set(1, 1);
-            shop.die(0, 1, 300);
-            if (pieces > 0) {
-                shop.job(0, 0, pieces, 0, false);
-                shop.pass(5 + 2 * pieces);
-            }
-            CHECK.same("pieces", shop.count(4), pieces);
-            for (int scrap = 0; scrap < 20; scrap++) {
+            for (int scrap = 0; scrap <= 20; scrap++) {
+                ForgeHeats shop = withShare(pieces, scrap);
+                CHECK.same("pieces", shop.count(4), pieces);
+                CHECK.same("scrap", shop.count(5), scrap);
                 CHECK.same("share " + pieces + "/" + scrap, shop.digest(), digestOf(shop, ""));
-                int number = shop.job(0, 0, 1, 0, false);
-                shop.pass(1);
-                shop.cancel(number);
             }
         }
+    }
+
+    private static ForgeHeats withShare(int pieces, int scrap) {
+        ForgeHeats shop = Shops.withStock(99);
+        shop.set(0, 300);
+        shop.set(1, 1);
+        shop.die(0, 1, 300);
+        if (pieces > 0) {
+            shop.job(0, 0, pieces, 0, false);
+            shop.pass(5 + 2 * pieces);
+        }
+        for (int lost = 0; lost < scrap; lost++) {
+            int number = shop.job(0, 0, 1, 0, false);
+            shop.pass(1);
+            shop.cancel(number);
+        }
+        return shop;
     }
 
     private static void nothingChanges() {

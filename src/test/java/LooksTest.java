@@ -26,6 +26,9 @@ public final class LooksTest {
         CHECK.same("on the press", shop.billet(6, 0), 0);
         CHECK.same("the one on the press counts", shop.heat(1, 3), 4);
         CHECK.same("and it is not lacking", shop.heat(1, 6), 3);
+        shop.job(3, 1, 7, 3, false);
+        CHECK.same("the lack of two jobs", shop.heat(1, 6), 10);
+        shop.cancel(3);
         shop.cancel(2);
         CHECK.same("scrap of heat 1", shop.heat(1, 5), 2);
         CHECK.same("a gone job lacks none", shop.heat(1, 6), 0);

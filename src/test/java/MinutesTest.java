@@ -131,6 +131,9 @@ public final class MinutesTest {
             CHECK.same("its job lacks one", shop.heat(0, 6), 1);
             CHECK.same("its job is there", shop.count(1), 1);
             CHECK.same("in time, reheats " + reheats, shop.count(0), minutes[reheats]);
+            shop.stock(0, 1);
+            shop.pass(1);
+            billet("another billet in its stead", shop, 0, 0, 20, 0, 9);
         }
     }
 
@@ -182,6 +185,38 @@ public final class MinutesTest {
         CHECK.same("the second piece", shop.pass(8), 1);
     }
 
+    private static void wornWhileAnotherIsGround() {
+        ForgeHeats shop = Shops.withStock(10);
+        shop.range(0, 600, 600);
+        shop.die(0, 5, 10);
+        shop.set(1, 1);
+        shop.set(3, 30);
+        shop.grind(4);
+        shop.job(0, 0, 3, 0, false);
+        CHECK.same("two pieces", shop.pass(16), 2);
+        CHECK.same("worn out by as much as its limit", shop.dieOf(0, 2), 10);
+        CHECK.same("its turn is not yet", shop.dieOf(0, 3), 0);
+        shop.pass(1);
+        billet("nothing for a worn die", shop, 6, -1);
+    }
+
+    private static void wornUnderBillet() {
+        ForgeHeats shop = Shops.withStock(2);
+        shop.range(0, 600, 600);
+        shop.die(0, 8, 10);
+        shop.set(1, 1);
+        shop.set(3, 30);
+        shop.grind(4);
+        shop.job(0, 0, 2, 0, false);
+        shop.pass(16);
+        billet("two blows", shop, 6, 0, 1248, 0, 6);
+        CHECK.same("wear 10 of 10", shop.dieOf(0, 2), 10);
+        shop.pass(1);
+        billet("no third one", shop, 6, -1);
+        billet("back in the furnace", shop, 0, 0, 1248, 1, 6);
+        CHECK.same("its turn is not yet", shop.dieOf(0, 3), 0);
+    }
+
     private static void grindingInTurn() {
         ForgeHeats shop = twoWornDies();
         CHECK.same("die 1 is worn out", shop.dieOf(1, 2), 13);
@@ -191,6 +226,7 @@ public final class MinutesTest {
         shop.pass(1);
         CHECK.same("the lowest worn die begins", shop.count(10), 1);
         CHECK.same("with the whole time", shop.dieOf(1, 3), 30);
+        CHECK.same("and no other one", shop.dieOf(2, 3), 0);
         CHECK.same("limit of die 4", shop.dieOf(4, 1), 55);
         shop.pass(30);
         CHECK.same("then the next one", shop.count(10), 2);
@@ -338,6 +374,8 @@ public final class MinutesTest {
         scrapByReheats();
         scrapByFullFurnace();
         wornDie();
+        wornWhileAnotherIsGround();
+        wornUnderBillet();
         grindingInTurn();
         otherDieWhileGrinding();
         charging();

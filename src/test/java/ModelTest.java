@@ -55,6 +55,9 @@ public final class ModelTest {
         ForgeHeats shop = new ForgeHeats();
         Model model = new Model();
         int style = number % 4;
+        if (style == 2) {
+            hardOnDies(shop, model);
+        }
         for (int call = 0; call < CALLS; call++) {
             String at = "run " + number + " call " + call + ": ";
             if (next(100) < 70) {
@@ -67,6 +70,23 @@ public final class ModelTest {
             }
         }
         same("run " + number + " digest", shop::digest, model::digest);
+    }
+
+    /** Much stock, cold blows and long grinding, so that several dies are worn out at once. */
+    private void hardOnDies(ForgeHeats shop, Model model) {
+        int[][] settings = {{0, 300}, {1, 150}, {2, 3}, {3, 12}};
+        for (int[] pair : settings) {
+            same("set", () -> shop.set(pair[0], pair[1]), () -> model.set(pair[0], pair[1]));
+        }
+        for (int number = 0; number < 5; number++) {
+            int die = number;
+            same("die", () -> shop.die(die, 3, 10), () -> model.die(die, 3, 10));
+        }
+        for (int number = 0; number < 4; number++) {
+            int heat = number;
+            same("stock", () -> shop.stock(heat, 99), () -> model.stock(heat, 99));
+            same("range", () -> shop.range(heat, 600, 1200), () -> model.range(heat, 600, 1200));
+        }
     }
 
     private void change(String at, ForgeHeats shop, Model model, int style) {

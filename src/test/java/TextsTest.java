@@ -94,6 +94,10 @@ public final class TextsTest {
         Shops.write(shop, "6d1h2@31");
         CHECK.same("a due minute at the end", shop.addAll(), 4);
         job("due 31", shop, 2, 3, 1, 2, 6, 0, 31, 0);
+        Shops.write(shop, "8d1h2@1!;9d3h1@2!");
+        CHECK.same("two parts", shop.addAll(), 6);
+        job("the first of two", shop, 0, 4, 1, 2, 8, 0, 1, 1);
+        job("the second of two", shop, 1, 5, 3, 1, 9, 0, 2, 1);
     }
 
     private static void tenJobs() {
