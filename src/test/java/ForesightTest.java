@@ -1,6 +1,3 @@
-import java.util.ArrayList;
-import java.util.List;
-
 /** Promises 22 to 27: ifPassed, doneIn, ifRush, bestReheats, saved, digest. */
 public final class ForesightTest {
     private static final Class<IndexOutOfBoundsException> PLACE = IndexOutOfBoundsException.class;
@@ -93,7 +90,7 @@ public final class ForesightTest {
         CHECK.same("gain behind it", shop.ifRush(1), 4);
         CHECK.same("late by then", shop.ifPassed(16, 3), 8 + 12);
         CHECK.same("pieces by then", shop.ifPassed(240, 0), 2);
-        CHECK.same("digest by then", shop.digest(), digestOf(shop, ""));
+        CHECK.same("digest by then", shop.digest(), Hash.of(shop, ""));
     }
 
     private static void ifRush() {
@@ -208,65 +205,20 @@ public final class ForesightTest {
         CHECK.same("scrap alone", lost.saved(), 0.0);
     }
 
-    /** The hash of all that the face tells, taken from the list of promise 27. */
-    private static long digestOf(ForgeHeats shop, String buffer) {
-        List<Long> values = new ArrayList<>();
-        addRow(values, 12, what -> shop.count(what));
-        addRow(values, 4, what -> shop.setting(what));
-        for (int number = 0; number < 4; number++) {
-            int heat = number;
-            addRow(values, 7, what -> shop.heat(heat, what));
-        }
-        for (int number = 0; number < 5; number++) {
-            int die = number;
-            addRow(values, 6, what -> shop.dieOf(die, what));
-        }
-        for (int number = 0; number < 7; number++) {
-            int place = number;
-            addRow(values, 4, what -> shop.billet(place, what));
-        }
-        for (int number = 0; number < shop.count(1); number++) {
-            int place = number;
-            addRow(values, 8, what -> shop.jobOf(place, what));
-            values.add((long) shop.doneIn(shop.jobOf(place, 0)));
-            values.add((long) shop.ifRush(shop.jobOf(place, 0)));
-        }
-        addRow(values, 5, what -> shop.ifPassed(30, what));
-        values.add((long) shop.bestReheats(40));
-        values.add(Double.doubleToLongBits(shop.saved()));
-        values.add((long) buffer.length());
-        addRow(values, buffer.length(), buffer::charAt);
-        long hash = 2857L;
-        for (long value : values) {
-            hash = 31L * hash + value;
-        }
-        return hash;
-    }
-
-    private interface Row {
-        int at(int what);
-    }
-
-    private static void addRow(List<Long> values, int length, Row row) {
-        for (int what = 0; what < length; what++) {
-            values.add((long) row.at(what));
-        }
-    }
-
     private static void digest() {
-        CHECK.same("new", new ForgeHeats().digest(), digestOf(new ForgeHeats(), ""));
+        CHECK.same("new", new ForgeHeats().digest(), Hash.of(new ForgeHeats(), ""));
         ForgeHeats shop = Shops.busy();
-        CHECK.same("busy", shop.digest(), digestOf(shop, "2d1h1@7!;"));
+        CHECK.same("busy", shop.digest(), Hash.of(shop, "2d1h1@7!;"));
         CHECK.same("twice", shop.digest(), shop.digest());
         CHECK.same("two alike", shop.digest(), Shops.busy().digest());
         shop.append(126);
-        CHECK.same("a character more", shop.digest(), digestOf(shop, "2d1h1@7!;~"));
+        CHECK.same("a character more", shop.digest(), Hash.of(shop, "2d1h1@7!;~"));
         shop.clearBuffer();
-        CHECK.same("an empty buffer", shop.digest(), digestOf(shop, ""));
+        CHECK.same("an empty buffer", shop.digest(), Hash.of(shop, ""));
         shop.pass(60);
-        CHECK.same("an hour on", shop.digest(), digestOf(shop, ""));
+        CHECK.same("an hour on", shop.digest(), Hash.of(shop, ""));
         shop.undo();
-        CHECK.same("and back", shop.digest(), digestOf(shop, ""));
+        CHECK.same("and back", shop.digest(), Hash.of(shop, ""));
     }
 
     /** Shares of many kinds enter the hash with their bits. */
@@ -276,7 +228,7 @@ public final class ForesightTest {
                 ForgeHeats shop = withShare(pieces, scrap);
                 CHECK.same("pieces", shop.count(4), pieces);
                 CHECK.same("scrap", shop.count(5), scrap);
-                CHECK.same("share " + pieces + "/" + scrap, shop.digest(), digestOf(shop, ""));
+                CHECK.same("share " + pieces + "/" + scrap, shop.digest(), Hash.of(shop, ""));
             }
         }
     }

@@ -1,10 +1,5 @@
 /** Long runs of calls, each compared with what the model answers to the same calls. */
 public final class ModelTest {
-    /** What a call answers: a value, or the name of the exception that it throws. */
-    private interface Answer {
-        Object of();
-    }
-
     private static final int RUNS = 300;
     private static final int CALLS = 150;
     private static final Check CHECK = new Check("ModelTest");
@@ -36,17 +31,9 @@ public final class ModelTest {
         return dice == 3 ? most : least + next(most - least + 1);
     }
 
-    private static Object answer(Answer call) {
-        try {
-            return call.of();
-        } catch (RuntimeException thrown) {
-            return thrown.getClass().getSimpleName();
-        }
-    }
-
-    private void same(String call, Answer got, Answer want) {
-        Object gotten = answer(got);
-        Object wanted = answer(want);
+    private void same(String call, Future.Answer got, Future.Answer want) {
+        Object gotten = Future.answer(got);
+        Object wanted = Future.answer(want);
         CHECK.same(call + " [" + gotten + " / " + wanted + "]", gotten.equals(wanted) ? 1 : 0, 1);
     }
 
@@ -192,7 +179,7 @@ public final class ModelTest {
             default -> {
                 int few = about(1, 120);
                 same(at + "bestReheats", () -> shop.bestReheats(few), () -> model.bestReheats(few));
-                same(at + "saved", shop::saved, model::saved);
+                CHECK.same(at + "saved", shop.saved(), model.saved());
             }
         }
     }

@@ -48,4 +48,41 @@ final class Shops {
         write(shop, "2d1h1@7!;");
         return shop;
     }
+
+    /** A shop with one billet that lies at 600 degrees, its low and its high temperature, on the press. */
+    static ForgeHeats with600OnPress(int blows, int due) {
+        ForgeHeats shop = withStock(1);
+        shop.range(0, 600, 600);
+        shop.die(0, blows, 300);
+        shop.set(0, 290);
+        shop.job(0, 0, 1, due, false);
+        shop.pass(3);
+        return shop;
+    }
+
+    /** A shop with ten jobs, numbered as they are ordered, and no stock. */
+    static ForgeHeats withTenJobs() {
+        ForgeHeats shop = withText("1d0h0;1d0h0;1d0h0;1d0h0;1d0h0;1d0h0;1d0h0;1d0h0;1d0h0;1d0h0");
+        shop.addAll();
+        return shop;
+    }
+
+    /** A shop with a full furnace and a job that lacks billets, whose die is being ground for long. */
+    static ForgeHeats withFullFurnace() {
+        ForgeHeats shop = withStock(9);
+        shop.set(3, 30);
+        shop.grind(0);
+        shop.job(0, 0, 9, 0, false);
+        shop.pass(6);
+        return shop;
+    }
+
+    /** A shop in which so many minutes are left before the last one. */
+    static ForgeHeats beforeTheLastMinute(int left) {
+        ForgeHeats shop = new ForgeHeats();
+        for (int rest = 9999 - left; rest > 0; rest -= 120) {
+            shop.pass(Math.min(rest, 120));
+        }
+        return shop;
+    }
 }
