@@ -431,6 +431,29 @@ public final class EdgesOfForesightTest {
         }
     }
 
+    /** "ifPassed of 30 with 0 to 4": in each of the minutes 29 to 31 there is another blow. */
+    private static void digestOfHalfAnHour() {
+        ForgeHeats shop = longJob(150);
+        CHECK.same("30 and not 29", shop.ifPassed(30, 4) - shop.ifPassed(29, 4), 1);
+        CHECK.same("30 and not 31", shop.ifPassed(31, 4) - shop.ifPassed(30, 4), 1);
+        CHECK.same("blows in 30", shop.digest(), Hash.of(shop, ""));
+    }
+
+    /** "bestReheats of 40": the best number changes with the minute 40, or with the minute 41. */
+    private static void digestOfBestReheats() {
+        int[] grinding = {24, 25};
+        int[] in40 = {3, 2};
+        for (int index = 0; index < grinding.length; index++) {
+            ForgeHeats shop = coldJob(9);
+            shop.set(3, grinding[index]);
+            shop.grind(0);
+            CHECK.same("best in 39", shop.bestReheats(39), 2);
+            CHECK.same("best in 40", shop.bestReheats(40), in40[index]);
+            CHECK.same("best in 41", shop.bestReheats(41), 3);
+            CHECK.same("digest with it", shop.digest(), Hash.of(shop, ""));
+        }
+    }
+
     /** Two shops that differ in one number alone have another hash. */
     private static void digestTellsApart() {
         long first = Shops.busy().digest();
@@ -471,6 +494,8 @@ public final class EdgesOfForesightTest {
         savedOfSome();
         digestOfEmptyAndFull();
         digestOfShares();
+        digestOfHalfAnHour();
+        digestOfBestReheats();
         digestTellsApart();
         CHECK.end();
     }

@@ -110,6 +110,23 @@ public final class EdgesOfLooksTest {
         CHECK.same("none if the last lies on the press", last.heat(0, 6), 0);
     }
 
+    /** A job that is gone lacks nothing, has no billets, and is no rush job any more. */
+    private static void nothingOfGoneJobs() {
+        ForgeHeats shop = Shops.withStock(3);
+        shop.job(0, 0, 2, 0, false);
+        shop.job(1, 0, 40, 5, true);
+        shop.pass(1);
+        shop.rush(0, true);
+        CHECK.same("two jobs lack", shop.heat(0, 6), 2 + 39);
+        shop.cancel(1);
+        CHECK.same("the lack of one", shop.heat(0, 6), 2);
+        CHECK.same("no billets of it", shop.heat(0, 3), 0);
+        CHECK.same("one rush job", shop.count(2), 1);
+        shop.cancel(0);
+        CHECK.same("no lack", shop.heat(0, 6), 0);
+        CHECK.same("no rush job", shop.count(2), 0);
+    }
+
     // ---- promise 17
 
     /** "Throws IndexOutOfBoundsException if there is no such die". */
@@ -526,6 +543,7 @@ public final class EdgesOfLooksTest {
         billetsOfHeat();
         piecesAndScrapOfHeat();
         lackOfHeat();
+        nothingOfGoneJobs();
         noSuchDie();
         noSuchPropertyOfDie();
         grindingOfDie();

@@ -232,6 +232,22 @@ public final class EdgesOfMinutesTest {
         CHECK.same("at one place alone", shop.count(3), 1);
     }
 
+    /** "heated again 0 times", also where a billet lay that was heated again. */
+    private static void newBilletInAnUsedPlace() {
+        ForgeHeats shop = Shops.withLoadedPress(0);
+        shop.set(3, 1);
+        shop.grind(0);
+        shop.pass(1);
+        billet("back at place 0", shop, 0, 0, 1220, 1, 3);
+        shop.pass(1);
+        billet("on the press again", shop, 6, 0, 1250, 1, 3);
+        shop.stock(0, 1);
+        shop.die(1, 7, 60);
+        shop.job(1, 0, 1, 5, false);
+        shop.pass(1);
+        billet("a new one at its place", shop, 0, 1, 20, 0, 7);
+    }
+
     /** The lowest free place may lie between others, or be the last one. */
     private static void lowestFreePlace() {
         ForgeHeats shop = Shops.withStock(20);
@@ -289,6 +305,7 @@ public final class EdgesOfMinutesTest {
         lackBehindGoingBack();
         whichJobGetsOne();
         newBillet();
+        newBilletInAnUsedPlace();
         lowestFreePlace();
         blowsOfNewBillets();
         CHECK.end();

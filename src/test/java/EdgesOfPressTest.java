@@ -310,6 +310,25 @@ public final class EdgesOfPressTest {
         billet("the other stays", equal, 1, 1, 1250);
     }
 
+    /** "the hottest": by one degree, though it lies at a higher place. */
+    private static void hottestByOneDegree() {
+        int[] warming = {29, 30};
+        for (int degrees : warming) {
+            ForgeHeats shop = withTwoHot(1000);
+            shop.set(3, 1);
+            shop.grind(1);
+            shop.pass(1);
+            billet("its die was being ground", shop, 0, 1, 1220);
+            billet("for this minute", shop, 1, 1, 1250);
+            shop.set(0, degrees);
+            shop.pass(1);
+            int left = degrees == 29 ? 0 : 1;
+            billet("one of them", shop, 6, 1, 1250);
+            billet("not the colder, nor the higher one of equals", shop, left, 1, 1220 + degrees);
+            nothingAt("that place is free", shop, 1 - left);
+        }
+    }
+
     /** Behind ten minutes a billet of 1070 degrees lies at place 0, one of 1220 at place 1. */
     private static ForgeHeats withTwoHot(int high) {
         ForgeHeats shop = Shops.withStock(9);
@@ -530,6 +549,7 @@ public final class EdgesOfPressTest {
         groundDieGetsNone();
         firstJobThatCan();
         hottestOrLowest();
+        hottestByOneDegree();
         limitBehindGrinding();
         beginsAtItsLimit();
         oneAtATime();

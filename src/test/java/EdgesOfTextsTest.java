@@ -240,6 +240,26 @@ public final class EdgesOfTextsTest {
         CHECK.same("the next number", shop.job(0, 0, 1, 0, false), 4);
     }
 
+    /** "Clears the buffer": of an earlier, longer text nothing is read, neither a part nor a sign nor a digit. */
+    private static void nothingOfAnEarlierText() {
+        String[] earlier = {"1d0h0;1d0h0", "1d0h0!", "1d0h0@5", "9d4h3@77!;9d4h3"};
+        for (String text : earlier) {
+            ForgeHeats shop = Shops.withText(text);
+            shop.clearBuffer();
+            Shops.write(shop, "1d0h0");
+            CHECK.same("one job, behind " + text, shop.addAll(), 1);
+            CHECK.same("no rush job", shop.jobOf(0, 6), 0);
+            CHECK.same("no due minute", shop.jobOf(0, 5), 9999);
+        }
+        ForgeHeats due = Shops.withText("1d0h0@77!");
+        due.addAll();
+        Shops.write(due, "1d0h0@7");
+        CHECK.same("no error", due.firstError(), 7);
+        CHECK.same("added", due.addAll(), 2);
+        CHECK.same("the due minute as it is written", due.jobOf(1, 5), 7);
+        CHECK.same("no rush job", due.jobOf(1, 6), 0);
+    }
+
     /** "and clears the buffer": only if they are added. */
     private static void clearedIfAdded() {
         ForgeHeats shop = Shops.withText("1d0h0");
@@ -310,6 +330,7 @@ public final class EdgesOfTextsTest {
         haste();
         everyCharacterEverywhere();
         oneAfterTheOther();
+        nothingOfAnEarlierText();
         clearedIfAdded();
         atMostTenJobs();
         allOrNone();
