@@ -146,6 +146,17 @@ public final class EdgesOfJobsTest {
         CHECK.same("an undone job had none", shop.job(0, 0, 1, 0, false), 4);
     }
 
+    /** "An object is used for at most 512 calls": the last of them is answered as the first. */
+    private static void theLastCall() {
+        ForgeHeats shop = new ForgeHeats();
+        for (int number = 0; number < 255; number++) {
+            CHECK.same("a new number for each", shop.job(0, 0, 1, 0, false), number);
+            CHECK.same("no billet of it", shop.cancel(number), 0);
+        }
+        CHECK.same("call 511", shop.job(4, 3, 40, 9999, true), 255);
+        CHECK.same("call 512", shop.jobOf(0, 0), 255);
+    }
+
     /** "Jobs have an order: rush jobs first, then those that are due earlier, then those that came earlier." */
     private static void orderOfJobs() {
         ForgeHeats shop = new ForgeHeats();
@@ -339,6 +350,7 @@ public final class EdgesOfJobsTest {
         roomBehindAGoneJob();
         jobRefusedInOrder();
         numbersOfJobs();
+        theLastCall();
         orderOfJobs();
         cancelOfNoJob();
         cancelOfGoneJobs();
