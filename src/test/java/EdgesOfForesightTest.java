@@ -397,38 +397,54 @@ public final class EdgesOfForesightTest {
 
     // ---- promise 27
 
+    /** The digest must be the hash of what the other calls answer; a shop for each, as both take many calls. */
+    private static void sameDigest(String what, Supplier<ForgeHeats> maker, String buffer) {
+        CHECK.same(what, maker.get().digest(), Hash.of(maker.get(), buffer));
+    }
+
     /** The hash of an empty and of a full shop: no jobs and ten, no character and 60. */
     private static void digestOfEmptyAndFull() {
-        CHECK.same("empty", new ForgeHeats().digest(), Hash.of(new ForgeHeats(), ""));
+        sameDigest("empty", ForgeHeats::new, "");
         CHECK.same("empty, as the model has it", new ForgeHeats().digest(), new Model().digest());
-        ForgeHeats ten = Shops.withTenJobs();
-        CHECK.same("ten jobs", ten.digest(), Hash.of(ten, ""));
-        ten.stock(0, 99);
-        ten.pass(10);
-        CHECK.same("with all places taken", ten.count(3), 6);
-        CHECK.same("and the press", ten.billet(6, 0), 0);
-        CHECK.same("ten jobs and seven billets", ten.digest(), Hash.of(ten, ""));
+        sameDigest("ten jobs", Shops::withTenJobs, "");
+        ForgeHeats full = fullShop("");
+        CHECK.same("all places taken", full.count(3), 6);
+        CHECK.same("and the press", full.billet(6, 0), 0);
+        sameDigest("ten jobs and seven billets", () -> fullShop(""), "");
         String text = "~!".repeat(30);
-        Shops.write(ten, text);
-        CHECK.same("a full buffer", ten.digest(), Hash.of(ten, text));
-        ten.clearBuffer();
-        CHECK.same("an empty one", ten.digest(), Hash.of(ten, ""));
-        ForgeHeats end = atTheEnd();
-        CHECK.same("in the last minute", end.digest(), Hash.of(end, ""));
+        sameDigest("a full buffer", () -> fullShop(text), text);
+        sameDigest("in the last minute", EdgesOfForesightTest::atTheEnd, "");
+    }
+
+    /** Ten jobs, with billets at all places. */
+    private static ForgeHeats fullShop(String text) {
+        ForgeHeats shop = Shops.withTenJobs();
+        shop.stock(0, 99);
+        shop.pass(10);
+        Shops.write(shop, text);
+        return shop;
     }
 
     /** "the bits of saved": of 1.0, of 0.0, and of shares between them. */
     private static void digestOfShares() {
-        ForgeHeats shop = Shops.withStock(99);
-        CHECK.same("1.0", shop.digest(), Hash.of(shop, ""));
-        int lost = 0;
-        for (int round = 0; round < 7; round++) {
-            int number = shop.job(0, 0, 2, 0, false);
-            shop.pass(round == 0 ? 2 : 12);
-            lost += shop.cancel(number);
-            CHECK.same("share of round " + round, shop.saved(), (double) round / (round + lost));
-            CHECK.same("digest of round " + round, shop.digest(), Hash.of(shop, ""));
+        sameDigest("1.0", ForgeHeats::new, "");
+        double[] shares = {0.0, 1.0 / 5.0, 2.0 / 8.0, 3.0 / 11.0, 4.0 / 14.0, 5.0 / 17.0};
+        for (int rounds = 0; rounds < shares.length; rounds++) {
+            int count = rounds;
+            CHECK.same("share of " + rounds, withShare(rounds).saved(), shares[rounds]);
+            sameDigest("digest of " + rounds, () -> withShare(count), "");
         }
+    }
+
+    /** Two billets become scrap, and behind them in each round a piece is made and two more become scrap. */
+    private static ForgeHeats withShare(int rounds) {
+        ForgeHeats shop = Shops.withStock(99);
+        for (int round = 0; round <= rounds; round++) {
+            int number = shop.job(0, 0, 3, 0, false);
+            shop.pass(round == 0 ? 2 : 12);
+            shop.cancel(number);
+        }
+        return shop;
     }
 
     /** "ifPassed of 30 with 0 to 4": in each of the minutes 29 to 31 there is another blow. */
@@ -436,7 +452,7 @@ public final class EdgesOfForesightTest {
         ForgeHeats shop = longJob(150);
         CHECK.same("30 and not 29", shop.ifPassed(30, 4) - shop.ifPassed(29, 4), 1);
         CHECK.same("30 and not 31", shop.ifPassed(31, 4) - shop.ifPassed(30, 4), 1);
-        CHECK.same("blows in 30", shop.digest(), Hash.of(shop, ""));
+        sameDigest("blows in 30", () -> longJob(150), "");
     }
 
     /** "bestReheats of 40": the best number changes with the minute 40, or with the minute 41. */
@@ -444,14 +460,20 @@ public final class EdgesOfForesightTest {
         int[] grinding = {24, 25};
         int[] in40 = {3, 2};
         for (int index = 0; index < grinding.length; index++) {
-            ForgeHeats shop = coldJob(9);
-            shop.set(3, grinding[index]);
-            shop.grind(0);
+            int minutes = grinding[index];
+            ForgeHeats shop = coldBehindGrinding(minutes);
             CHECK.same("best in 39", shop.bestReheats(39), 2);
             CHECK.same("best in 40", shop.bestReheats(40), in40[index]);
             CHECK.same("best in 41", shop.bestReheats(41), 3);
-            CHECK.same("digest with it", shop.digest(), Hash.of(shop, ""));
+            sameDigest("digest with it", () -> coldBehindGrinding(minutes), "");
         }
+    }
+
+    private static ForgeHeats coldBehindGrinding(int minutes) {
+        ForgeHeats shop = coldJob(9);
+        shop.set(3, minutes);
+        shop.grind(0);
+        return shop;
     }
 
     /** Two shops that differ in one number alone have another hash. */

@@ -1,3 +1,6 @@
+import java.util.function.Consumer;
+import java.util.function.Supplier;
+
 /** Promises 22 to 27: ifPassed, doneIn, ifRush, bestReheats, saved, digest. */
 public final class ForesightTest {
     private static final Class<IndexOutOfBoundsException> PLACE = IndexOutOfBoundsException.class;
@@ -205,30 +208,45 @@ public final class ForesightTest {
         CHECK.same("scrap alone", lost.saved(), 0.0);
     }
 
+    /** The digest must be the hash of what the other calls answer; a shop for each, as both take many calls. */
+    private static void sameDigest(String what, Supplier<ForgeHeats> maker, String buffer) {
+        CHECK.same(what, maker.get().digest(), Hash.of(maker.get(), buffer));
+    }
+
+    /** A busy shop on which a call more was made. */
+    private static Supplier<ForgeHeats> behind(Consumer<ForgeHeats> call) {
+        return () -> {
+            ForgeHeats shop = Shops.busy();
+            call.accept(shop);
+            return shop;
+        };
+    }
+
     private static void digest() {
-        CHECK.same("new", new ForgeHeats().digest(), Hash.of(new ForgeHeats(), ""));
+        sameDigest("new", ForgeHeats::new, "");
+        sameDigest("busy", Shops::busy, "2d1h1@7!;");
         ForgeHeats shop = Shops.busy();
-        CHECK.same("busy", shop.digest(), Hash.of(shop, "2d1h1@7!;"));
         CHECK.same("twice", shop.digest(), shop.digest());
         CHECK.same("two alike", shop.digest(), Shops.busy().digest());
-        shop.append(126);
-        CHECK.same("a character more", shop.digest(), Hash.of(shop, "2d1h1@7!;~"));
-        shop.clearBuffer();
-        CHECK.same("an empty buffer", shop.digest(), Hash.of(shop, ""));
-        shop.pass(60);
-        CHECK.same("an hour on", shop.digest(), Hash.of(shop, ""));
-        shop.undo();
-        CHECK.same("and back", shop.digest(), Hash.of(shop, ""));
+        sameDigest("a character more", behind(busy -> busy.append(126)), "2d1h1@7!;~");
+        sameDigest("an empty buffer", behind(ForgeHeats::clearBuffer), "");
+        sameDigest("an hour on", behind(busy -> busy.pass(60)), "2d1h1@7!;");
+        sameDigest("and back", behind(busy -> {
+            busy.pass(60);
+            busy.undo();
+        }), "2d1h1@7!;");
     }
 
     /** Shares of many kinds enter the hash with their bits. */
     private static void bitsOfShares() {
         for (int pieces = 0; pieces <= 12; pieces++) {
             for (int scrap = 0; scrap <= 20; scrap++) {
-                ForgeHeats shop = withShare(pieces, scrap);
+                int made = pieces;
+                int lost = scrap;
+                ForgeHeats shop = withShare(made, lost);
                 CHECK.same("pieces", shop.count(4), pieces);
                 CHECK.same("scrap", shop.count(5), scrap);
-                CHECK.same("share " + pieces + "/" + scrap, shop.digest(), Hash.of(shop, ""));
+                sameDigest("share " + pieces + "/" + scrap, () -> withShare(made, lost), "");
             }
         }
     }

@@ -1,12 +1,15 @@
 /** Long runs of calls, each compared with what the model answers to the same calls. */
 public final class ModelTest {
     private static final int RUNS = 300;
-    private static final int CALLS = 150;
+    // Behind 512 calls answers are free, and one turn of a run takes up to some sixty.
+    private static final int CALLS = 440;
     private static final Check CHECK = new Check("ModelTest");
     private static final String[] PARTS = {
         "1d0h0", "40d4h3", "7d1h1@0", "12d2h2@30!", "3d3h0!", "5d0h1@9999", "2d1h3@120", "9d4h2@45!",
         "41d0h0", "0d0h0", "1d5h0", "1d0h4", "1d0h0@01", "1d0h0@10000", "1d0h0!@3", "1d0h0;", "05d1h1",
     };
+
+    private int calls;
 
     // A fixed sequence of numbers that look mixed, so that every run of this test is the same.
     private long seed;
@@ -32,6 +35,7 @@ public final class ModelTest {
     }
 
     private void same(String call, Future.Answer got, Future.Answer want) {
+        calls++;
         Object gotten = Future.answer(got);
         Object wanted = Future.answer(want);
         CHECK.same(call + " [" + gotten + " / " + wanted + "]", gotten.equals(wanted) ? 1 : 0, 1);
@@ -42,11 +46,12 @@ public final class ModelTest {
         ForgeHeats shop = new ForgeHeats();
         Model model = new Model();
         int style = number % 4;
+        calls = 0;
         if (style == 2) {
             hardOnDies(shop, model);
         }
-        for (int call = 0; call < CALLS; call++) {
-            String at = "run " + number + " call " + call + ": ";
+        while (calls < CALLS) {
+            String at = "run " + number + " call " + calls + ": ";
             if (next(100) < 70) {
                 change(at, shop, model, style);
             } else {
@@ -104,7 +109,7 @@ public final class ModelTest {
                     () -> model.job(b, a, pieces, due, flag));
             }
             case 7 -> {
-                int job = someJob(shop);
+                int job = someJob(model);
                 if (next(3) == 0) {
                     same(at + "cancel", () -> shop.cancel(job), () -> model.cancel(job));
                 } else {
@@ -152,9 +157,9 @@ public final class ModelTest {
         }
     }
 
-    private int someJob(ForgeHeats shop) {
-        int jobs = shop.count(1);
-        return jobs == 0 || next(12) == 0 ? next(12) - 1 : shop.jobOf(next(jobs), 0);
+    private int someJob(Model model) {
+        int jobs = model.count(1);
+        return jobs == 0 || next(12) == 0 ? next(12) - 1 : model.jobOf(next(jobs), 0);
     }
 
     private void look(String at, ForgeHeats shop, Model model) {
@@ -163,7 +168,7 @@ public final class ModelTest {
         int what = about(0, 6);
         int place = about(0, 9);
         int minutes = about(1, 240);
-        int job = someJob(shop);
+        int job = someJob(model);
         switch (next(11)) {
             case 0 -> same(at + "heat", () -> shop.heat(a, what), () -> model.heat(a, what));
             case 1 -> same(at + "dieOf", () -> shop.dieOf(b, what), () -> model.dieOf(b, what));
@@ -179,6 +184,7 @@ public final class ModelTest {
             default -> {
                 int few = about(1, 120);
                 same(at + "bestReheats", () -> shop.bestReheats(few), () -> model.bestReheats(few));
+                calls++;
                 CHECK.same(at + "saved", shop.saved(), model.saved());
             }
         }
